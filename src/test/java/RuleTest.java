@@ -101,6 +101,11 @@ public final class RuleTest {
         says(x, "0" + "-1".repeat(398) + "<0", 799, 0, 1);
         says(x, "1=2" + "|1=2".repeat(198) + "|1=1", 799, 0, 1);
         says(x, "1=1" + "&1=1".repeat(198) + "&1=2", 799, 0, 0);
+        says(x, "!0" + "-1".repeat(398) + "<0", 800, 0, 0);
+        Check.put(x, "1=12");
+        x.end(3);
+        Check.due("rule cut to '1=1'", x.rule(), 3);
+        Check.due("may by it", x.may(0, 0), 1);
         String deep = "1=2|1=1&(";
         says(x, deep.repeat(8) + "1=2|1=1&1=0+1" + ")".repeat(8), 8 * 9 + 13 + 8, 0, 1);
     }

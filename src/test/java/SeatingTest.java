@@ -15,6 +15,9 @@ public final class SeatingTest {
         seatingFigures();
         lostInstrument();
         fullBand();
+        lastPlayerAlone();
+        greatLacks();
+        allGone();
         Check.end("SeatingTest");
     }
 
@@ -259,6 +262,44 @@ public final class SeatingTest {
         Check.due("seating(0, 0) of those who can", x.seating(0, 0), 7);
         Check.due("again(0)", x.again(0), 1);
         chairs("who can't goes", x, 0, -1, 1);
+    }
+
+    private static void lastPlayerAlone() {
+        TownBand x = Check.band(14);
+        x.plays(13, 9, 0);
+        Check.load(x, "piece a:1 1 1,may 8,must 9;");
+        Check.due("playable(0) by the last one", x.playable(0), 1);
+        Check.due("lacks(0) by the last one", x.lacks(0), 0);
+        Check.due("seat(0) of the last one", x.seat(0), 1);
+        chairs("the last one", x, 0, -1, 13);
+    }
+
+    private static void greatLacks() {
+        TownBand x = Check.band(9);
+        for (int p = 0; p < 9; p++) {
+            x.plays(p, 0, 0);
+        }
+        Check.load(x, "piece a:1 1 1" + ",must 0".repeat(10) + ";piece b:1 1 1,may 0" + ",must 0".repeat(9) + ";");
+        Check.due("lacks of ten", x.lacks(0), 1023);
+        Check.due("lacks of none", x.lacks(1), 0);
+        x.here(4, false);
+        Check.due("lacks of the first nine", x.lacks(0), 511);
+        Check.due("lacks of nine", x.lacks(1), 1022);
+    }
+
+    private static void allGone() {
+        TownBand x = Check.band(2);
+        x.plays(0, 0, 0);
+        x.plays(1, 1, 0);
+        Check.load(x, "piece a:1 1 1,may 0,may 1;piece b:1 1 1,may 0,may 1;");
+        x.seat(0);
+        x.seat(1);
+        x.here(0, false);
+        x.here(1, false);
+        Check.due("again(0) of none", x.again(0), 2);
+        Check.due("seat(1) of none", x.seat(1), 0);
+        chairs("all are gone", x, 0, -1, -1);
+        chairs("all are gone", x, 1, -1, -1);
     }
 
     private static void fullBand() {

@@ -11,6 +11,7 @@ public final class TextTest {
         faultOfTooMany();
         faultLeavesLibrary();
         faultOfLatest();
+        whatWasCutIsGone();
         Check.end("TextTest");
     }
 
@@ -147,6 +148,9 @@ public final class TextTest {
         Check.fault(x, "piece ab", false, 2, 6);
         Check.due("load of names that begin alike", Check.load(x, "piece abc:1 1 1;piece zzzzzz:1 1 1;piece zzzzz:1 1 1;"), 7);
         Check.fault(x, "piece zzzzzz:1 1 1;", false, 2, 6);
+        TownBand y = new TownBand();
+        Check.due("load of names that end alike", Check.load(y, "piece abcdef:1 1 1;piece ebcdef:1 1 1;piece qbcdef:1 1 1;"), 3);
+        Check.fault(y, "piece qbcdef:1 1 1;", false, 2, 6);
         Check.due("a name of a text with a fault is free", Check.load(x, "piece c:1 1 1;"), 8);
     }
 
@@ -196,6 +200,26 @@ public final class TextTest {
         Check.due("its part's instrument", x.piece(1, 100), 1);
         Check.due("its chair", x.chair(1, 0), -1);
         Check.due("the old chair", x.chair(0, 0), 0);
+    }
+
+    private static void whatWasCutIsGone() {
+        TownBand x = new TownBand();
+        Check.put(x, "piece a:1 1 1;");
+        x.end(4);
+        Check.due("load of 'piec'", x.load(), -1);
+        Check.due("its place", x.fault(1), 0);
+        Check.put(x, "piece a   ");
+        x.end(7);
+        Check.due("load of 'piece a'", x.load(), -1);
+        Check.due("its place", x.fault(1), 7);
+        Check.put(x, "piece a:1 1 1;piece");
+        x.end(14);
+        Check.due("load of 'piece a:1 1 1;'", x.load(), 1);
+        Check.put(x, "piece b:1 1 12");
+        x.end(13);
+        Check.due("load of 'piece b:1 1 1'", x.load(), -1);
+        Check.due("its fault", x.fault(0), 1);
+        Check.due("its place", x.fault(1), 13);
     }
 
     private static void faultOfLatest() {
