@@ -3,8 +3,9 @@ import java.util.List;
 import java.util.function.ToIntFunction;
 
 /**
- * A refused call leaves everything as it was: on a desk made anew for each call, all that can be asked is
- * asked behind the call, and compared with what a desk answers on which the call was not made.
+ * A refused call leaves everything as it was: on a desk made anew for each call, questions are asked behind
+ * the call, and compared with what a desk answers on which the call was not made. An ordinary desk is asked
+ * for each kind of thing that it holds, a new and a full one for fewer, to stay within their 512 calls.
  */
 public final class RefusedTest {
     private record Refused(String name, ToIntFunction<TownBand> call, int due) {
@@ -202,7 +203,7 @@ public final class RefusedTest {
         return x;
     }
 
-    /** All that an ordinary desk can be asked; the calls that change it come last. */
+    /** Each kind of thing that an ordinary desk holds; the calls that change it come last. */
     private static List<Integer> all(TownBand x) {
         List<Integer> seen = new ArrayList<>(desk(x));
         seen.add(x.fault(0));
